@@ -224,7 +224,7 @@ public final class RangeResolver {
             case 5:
                 return finding.accused();
             default:
-                return isSlot(what - SLOTS) && what >= SLOTS ? slots[what - SLOTS].stretches() : NONE;
+                return isSlot(what - SLOTS) ? slots[what - SLOTS].stretches() : NONE;
         }
     }
 
@@ -505,7 +505,8 @@ public final class RangeResolver {
                 return false;
             }
             if (row[NUMBERS] == PLAIN) {
-                raise(row, NUMBERS - 1);
+                row[NUMBERS - 1]++;
+                row[NUMBERS] = ZERO_KEY;
                 return true;
             }
             for (int k = NUMBERS; k < WIDTH; k++) {
@@ -1158,15 +1159,15 @@ public final class RangeResolver {
         int take(Tokens tokens, RangeReader ranges) {
             clear();
             if (takePackages(tokens, ranges) && takeWants(tokens, ranges) && expect(tokens, Tokens.END)) {
-                findTargets();
+                return findTargets();
             }
-            return fault;
+            return fault + PLACE_FACTOR * tokens.placeAt(at);
         }
 
         private boolean takePackages(Tokens tokens, RangeReader ranges) {
             for (int k = 0; k <= PACKS && tokens.kindAt(at) == Tokens.PACKAGE; k++) {
                 if (k == PACKS) {
-                    return fail(tokens, TOO_MUCH);
+                    return fail(TOO_MUCH);
                 }
                 at++;
                 if (!takeName(tokens) || !expect(tokens, Tokens.OPEN)
@@ -1179,10 +1180,10 @@ public final class RangeResolver {
 
         private boolean takeName(Tokens tokens) {
             if (tokens.kindAt(at) != Tokens.NAME) {
-                return fail(tokens, FORM);
+                return fail(FORM);
             }
             if (packNamed(tokens.placeAt(at), tokens.endAt(at)) != NONE) {
-                return fail(tokens, TWICE);
+                return fail(TWICE);
             }
             addPack(tokens.placeAt(at), tokens.endAt(at));
             at++;
@@ -1192,11 +1193,11 @@ public final class RangeResolver {
         private boolean takeReleases(Tokens tokens, RangeReader ranges) {
             for (int k = 0; k <= RELEASES_OF_ONE && tokens.kindAt(at) == Tokens.VERSION; k++) {
                 if (k == RELEASES_OF_ONE) {
-                    return fail(tokens, TOO_MUCH);
+                    return fail(TOO_MUCH);
                 }
                 version.take(text, tokens.placeAt(at), tokens.endAt(at));
                 if (!addRelease(tokens.placeAt(at), tokens.endAt(at))) {
-                    return fail(tokens, TWICE);
+                    return fail(TWICE);
                 }
                 at++;
                 if (!takeLinks(tokens, ranges) || !expect(tokens, Tokens.SEMICOLON)) {
@@ -1209,7 +1210,7 @@ public final class RangeResolver {
         private boolean takeLinks(Tokens tokens, RangeReader ranges) {
             for (int k = 0; k <= LINKS_OF_ONE && Tokens.isLink(tokens.kindAt(at)); k++) {
                 if (k == LINKS_OF_ONE) {
-                    return fail(tokens, TOO_MUCH);
+                    return fail(TOO_MUCH);
                 }
                 if (!takeConstraint(tokens, ranges)) {
                     return false;
@@ -1221,7 +1222,7 @@ public final class RangeResolver {
         private boolean takeWants(Tokens tokens, RangeReader ranges) {
             for (int k = 0; k <= WANTS && tokens.kindAt(at) == Tokens.WANT; k++) {
                 if (k == WANTS) {
-                    return fail(tokens, TOO_MUCH);
+                    return fail(TOO_MUCH);
                 }
                 if (!takeConstraint(tokens, ranges) || !expect(tokens, Tokens.SEMICOLON)) {
                     return false;
@@ -1240,32 +1241,34 @@ public final class RangeResolver {
             int rangeFault = ranges.check(tokens, at);
             at = ranges.stop();
             if (rangeFault != 0) {
-                return fail(tokens, rangeFault);
+                return fail(rangeFault);
             }
             addConstraint(tokens, word, at);
             return true;
         }
 
-        private void findTargets() {
-            for (int c = 0; c < constraintCount && fault == 0; c++) {
+        private int findTargets() {
+            for (int c = 0; c < constraintCount; c++) {
                 Constraint constraint = constraints[c];
                 constraint.target = packNamed(constraint.nameFrom, constraint.nameTo);
                 if (constraint.target == NONE) {
-                    fault = UNKNOWN + PLACE_FACTOR * constraint.nameFrom;
+                    return UNKNOWN + PLACE_FACTOR * constraint.nameFrom;
                 }
             }
+            return 0;
         }
 
         private boolean expect(Tokens tokens, int kind) {
             if (tokens.kindAt(at) != kind) {
-                return fail(tokens, FORM);
+                return fail(FORM);
             }
             at++;
             return true;
         }
 
-        private boolean fail(Tokens tokens, int kind) {
-            fault = kind + PLACE_FACTOR * tokens.placeAt(at);
+        /** The token at hand is the faulty one. */
+        private boolean fail(int kind) {
+            fault = kind;
             return false;
         }
 
@@ -1361,6 +1364,7 @@ public final class RangeResolver {
         private static final int ABSENT = Registry.RELEASES_OF_ONE;
         private static final int VALUES = ABSENT + 1;
         private static final int ANY = (1 << VALUES) - 1;
+        private static final int POSSIBLE = -1;
 
         private Registry registry;
         private int packs;
@@ -1370,6 +1374,8 @@ public final class RangeResolver {
         private final int[] allowed;
         /** At (values laid down, package): the values that are open. */
         private final int[] open;
+        /** Likewise: a bit for each package laid down that has closed values of it. */
+        private final int[] closers;
         private final boolean[] active;
         private final int[] values;
 
@@ -1379,6 +1385,7 @@ public final class RangeResolver {
             says = new int[PACKS * VALUES * PACKS];
             allowed = new int[PACKS * VALUES * PACKS];
             open = new int[(PACKS + 1) * PACKS];
+            closers = new int[(PACKS + 1) * PACKS];
             active = new boolean[Registry.CONSTRAINTS];
             values = new int[PACKS];
         }
@@ -1403,7 +1410,7 @@ public final class RangeResolver {
         }
 
         boolean isPossible() {
-            return isPossibleFrom(0, 0);
+            return blameFrom(0, 0) == POSSIBLE;
         }
 
         /** The best solution, of which it is known that there is one. */
@@ -1436,8 +1443,9 @@ public final class RangeResolver {
             }
         }
 
+        /** How many solutions there are, at most so many. */
         int tally(int most) {
-            return tallyFrom(0, 0, most);
+            return isPossible() ? tallyFrom(0, 0, most) : 0;
         }
 
         private int lockedValue(Finding finding, int p) {
@@ -1471,28 +1479,36 @@ public final class RangeResolver {
 
         /** Whether there is a solution with this value and with those of the packages ahead. */
         private boolean leadsOn(int p, int value) {
-            return isOpen(p, p, value) && lay(p, p, value) && isPossibleFrom(p + 1, (1 << p + 1) - 1);
+            return isOpen(p, p, value) && lay(p, p, value) == 0
+                    && blameFrom(p + 1, (1 << p + 1) - 1) == POSSIBLE;
         }
 
         /**
-         * Whether what is laid down is part of a solution. Only packages that must be there are laid
-         * down: when ABSENT is open for all the others, that is a solution.
+         * POSSIBLE if what is laid down is part of a solution; else a bit for each package of some
+         * that are laid down so that there is none with them. Only packages that must be there are
+         * laid down: when ABSENT is open for all the others, that is a solution. Where a package has
+         * no part in the blame of one of its values, the others needn't be tried: else packages that
+         * have nothing to do with it would be gone through for each other.
          */
-        private boolean isPossibleFrom(int depth, int laid) {
-            if (depth >= packs) {
-                return true;
-            }
-            int p = smallestPack(depth, laid, true);
+        private int blameFrom(int depth, int laid) {
+            int p = depth < packs ? smallestPack(depth, laid, true) : NONE;
             if (p == NONE) {
-                return true;
+                return POSSIBLE;
             }
+            int blamed = closers[depth * PACKS + p];
             for (int value = 0; value < ABSENT; value++) {
-                if (isOpen(depth, p, value) && lay(depth, p, value)
-                        && isPossibleFrom(depth + 1, laid | 1 << p)) {
-                    return true;
+                if (isOpen(depth, p, value)) {
+                    int blame = lay(depth, p, value);
+                    if (blame == 0) {
+                        blame = blameFrom(depth + 1, laid | 1 << p);
+                    }
+                    if (blame == POSSIBLE || (blame >> p & 1) == 0) {
+                        return blame;
+                    }
+                    blamed |= blame & ~(1 << p);
                 }
             }
-            return false;
+            return blamed;
         }
 
         /** Packages that must be there come first: the sooner it's seen that there is no solution. */
@@ -1512,7 +1528,7 @@ public final class RangeResolver {
             }
             int sum = 0;
             for (int value = 0; value < VALUES && sum < most; value++) {
-                if (isOpen(depth, p, value) && lay(depth, p, value)) {
+                if (isOpen(depth, p, value) && lay(depth, p, value) == 0) {
                     sum += tallyFrom(depth + 1, laid | 1 << p, most - sum);
                 }
             }
@@ -1523,10 +1539,10 @@ public final class RangeResolver {
         private int smallestPack(int depth, int laid, boolean onlyNeeded) {
             int best = NONE;
             int fewest = VALUES + 1;
-            for (int p = 0; p < packs && depth <= PACKS; p++) {
+            for (int p = 0; p < packs && depth >= 0 && depth < PACKS; p++) {
                 int bits = open[depth * PACKS + p];
-                boolean fits = (laid >> p & 1) == 0 && (!onlyNeeded || (bits >> ABSENT & 1) == 0);
-                if (fits && Integer.bitCount(bits) < fewest) {
+                boolean counts = (laid >> p & 1) == 0 && (!onlyNeeded || (bits >> ABSENT & 1) == 0);
+                if (counts && Integer.bitCount(bits) < fewest) {
                     best = p;
                     fewest = Integer.bitCount(bits);
                 }
@@ -1535,24 +1551,30 @@ public final class RangeResolver {
         }
 
         private boolean isOpen(int depth, int p, int value) {
-            return depth >= 0 && depth < PACKS && (open[depth * PACKS + p] >> value & 1) == 1;
+            return depth >= 0 && depth < PACKS && p >= 0 && p < PACKS
+                    && (open[depth * PACKS + p] >> value & 1) == 1;
         }
 
-        /** Fills the next row of open values; false if a package has none left. */
-        private boolean lay(int depth, int p, int value) {
-            if (depth < 0 || depth >= PACKS || value < 0 || value >= VALUES) {
-                return false;
+        /**
+         * Fills the next row of open values: 0, or, if a package has none left, a bit for each package
+         * that has closed some of them.
+         */
+        private int lay(int depth, int p, int value) {
+            if (depth < 0 || depth >= PACKS || p < 0 || p >= PACKS || value < 0 || value >= VALUES) {
+                return 0;
             }
-            int from = depth * PACKS;
+            int here = depth * PACKS;
+            int there = here + PACKS;
             int goes = (p * VALUES + value) * PACKS;
             for (int q = 0; q < packs; q++) {
-                int left = open[from + q] & (q == p ? 1 << value : allowed[goes + q]);
+                int left = open[here + q] & (q == p ? 1 << value : allowed[goes + q]);
+                open[there + q] = left;
+                closers[there + q] = closers[here + q] | (left == open[here + q] ? 0 : 1 << p);
                 if (left == 0) {
-                    return false;
+                    return closers[there + q] | 1 << p;
                 }
-                open[from + PACKS + q] = left;
             }
-            return true;
+            return 0;
         }
 
         private void setActive(int c, boolean is) {
