@@ -35,6 +35,14 @@ public final class MadeUpRegistriesTest {
                 failed += x.count(5) > 0 ? 1 : 0;
             }
         }
+        for (int run = 0; run < 400; run++) {
+            String text = hardRegistry(random);
+            RangeResolver x = new RangeResolver();
+            due.is("read of \"" + text + "\"", 0, Due.read(x, text));
+            check(due, text, x, Model.registry(text));
+            solved += x.count(5) == 0 ? 1 : 0;
+            failed += x.count(5) > 0 ? 1 : 0;
+        }
         System.out.println(solved + " registries with a solution, " + failed + " without");
         due.is("registries of both kinds", 1, solved > 200 && failed > 200 ? 1 : 0);
         due.end();
@@ -50,7 +58,7 @@ public final class MadeUpRegistriesTest {
         for (int c = 0; c < model.constraints.size(); c++) {
             due.is("constraint " + c + " of " + text, model.constraintText(c), Due.written(x, 2, c));
         }
-        List<int[]> solutions = model.solutions(model.constraints);
+        List<int[]> solutions = model.solutions(model.allConstraints(), 1000);
         due.is("solutions of " + text, Math.min(1000, solutions.size()), x.solutions(1000));
         due.is("solutions of " + text, Math.min(3, solutions.size()), x.solutions(3));
         for (int round = 0; round < 2; round++) {
@@ -110,6 +118,32 @@ public final class MadeUpRegistriesTest {
             text.append(" want ");
             addTarget(random, text, packs);
             text.append(";");
+        }
+        return text.toString();
+    }
+
+    /** Few packages of many releases, of which most are wanted and clash with each other. */
+    private static String hardRegistry(Random random) {
+        int packs = 3 + random.nextInt(3);
+        int releases = packs == 5 ? 4 : 6;
+        int clashes = 1 + random.nextInt(4);
+        StringBuilder text = new StringBuilder();
+        for (int p = 0; p < packs; p++) {
+            text.append("package ").append(NAMES[p]).append('{');
+            for (int r = 1; r <= releases; r++) {
+                text.append(r).append(".0.0");
+                for (int k = random.nextInt(4); k >= 0; k--) {
+                    int target = (p + 1 + random.nextInt(packs - 1)) % packs;
+                    text.append(random.nextInt(4) < clashes ? " clash " : " needs ").append(NAMES[target]);
+                    text.append(random.nextInt(3) == 0 ? '=' : random.nextBoolean() ? '<' : '>');
+                    text.append(1 + random.nextInt(releases));
+                }
+                text.append(';');
+            }
+            text.append('}');
+        }
+        for (int p = 0; p < packs; p++) {
+            text.append(random.nextInt(5) == 0 ? "" : "want " + NAMES[p] + ">=" + random.nextInt(3) + ";");
         }
         return text.toString();
     }

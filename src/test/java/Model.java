@@ -272,6 +272,9 @@ final class Model {
     final List<Constraint> constraints = new ArrayList<>();
     private List<Token> tokens;
     private int at;
+    private int[] targets;
+    private boolean[][] within;
+    private final List<List<Integer>> values = new ArrayList<>();
 
     /** A registry; throws its fault. */
     static Model registry(String text) {
@@ -396,54 +399,81 @@ final class Model {
         return (x.holder < 0 ? "" : releaseText(x.holder) + " ") + x.kind + " " + x.name + " " + written(x.range);
     }
 
-    private boolean keeps(int[] choice, Constraint c) {
-        if (c.holder >= 0 && choice[releases.get(c.holder).pack] != c.holder) {
+    private boolean keeps(int[] choice, int c) {
+        Constraint x = constraints.get(c);
+        if (x.holder >= 0 && choice[releases.get(x.holder).pack] != x.holder) {
             return true;
         }
-        int target = choice[packs.indexOf(c.name)];
-        boolean isIn = target >= 0 && setOf(c.range).has(releases.get(target).version);
-        return c.kind.equals("clash") ? !isIn : isIn;
+        int target = choice[targets[c]];
+        return (target >= 0 && within[c][target]) != x.kind.equals("clash");
     }
 
-    /** All choices that keep the constraints, the best one first. */
-    List<int[]> solutions(List<Constraint> kept) {
+    /** All choices that keep these constraints, the best one first, at most so many. */
+    List<int[]> solutions(List<Integer> kept, int most) {
+        if (targets == null) {
+            prepare();
+        }
         List<int[]> result = new ArrayList<>();
-        int[] choice = new int[packs.size()];
-        addSolutions(0, choice, kept, result);
+        addSolutions(0, new int[packs.size()], kept, most, result);
         return result;
     }
 
-    private void addSolutions(int p, int[] choice, List<Constraint> kept, List<int[]> result) {
-        if (p == choice.length) {
-            if (kept.stream().allMatch(c -> keeps(choice, c))) {
-                result.add(choice.clone());
+    /** What choices are asked for again and again. */
+    private void prepare() {
+        targets = new int[constraints.size()];
+        within = new boolean[constraints.size()][releases.size()];
+        for (int c = 0; c < targets.length; c++) {
+            targets[c] = packs.indexOf(constraints.get(c).name);
+            for (int r = 0; r < releases.size(); r++) {
+                within[c][r] = setOf(constraints.get(c).range).has(releases.get(r).version);
             }
+        }
+        for (int p = 0; p < packs.size(); p++) {
+            List<Integer> row = new ArrayList<>();
+            for (int r = 0; r < releases.size(); r++) {
+                if (releases.get(r).pack == p) {
+                    row.add(r);
+                }
+            }
+            row.sort(Comparator.comparing((Integer r) -> releases.get(r).version, Model::compare).reversed());
+            row.add(0, -1);
+            values.add(row);
+        }
+    }
+
+    private void addSolutions(int p, int[] choice, List<Integer> kept, int most, List<int[]> result) {
+        if (p == choice.length) {
+            for (int c : kept) {
+                if (!keeps(choice, c)) {
+                    return;
+                }
+            }
+            result.add(choice.clone());
             return;
         }
-        List<Integer> values = new ArrayList<>();
-        for (int r = 0; r < releases.size(); r++) {
-            if (releases.get(r).pack == p) {
-                values.add(r);
+        for (int value : values.get(p)) {
+            if (result.size() < most) {
+                choice[p] = value;
+                addSolutions(p + 1, choice, kept, most, result);
             }
         }
-        values.sort(Comparator.comparing((Integer r) -> releases.get(r).version, Model::compare).reversed());
-        values.add(0, -1);
-        for (int value : values) {
-            choice[p] = value;
-            addSolutions(p + 1, choice, kept, result);
+    }
+
+    List<Integer> allConstraints() {
+        List<Integer> all = new ArrayList<>();
+        for (int c = 0; c < constraints.size(); c++) {
+            all.add(c);
         }
+        return all;
     }
 
     /** The numbers of the constraints that are the reason why there is no solution. */
     List<Integer> reason() {
-        List<Integer> left = new ArrayList<>();
-        for (int c = 0; c < constraints.size(); c++) {
-            left.add(c);
-        }
+        List<Integer> left = allConstraints();
         for (int c = constraints.size() - 1; c >= 0; c--) {
             List<Integer> without = new ArrayList<>(left);
             without.remove((Integer) c);
-            if (solutions(without.stream().map(constraints::get).toList()).isEmpty()) {
+            if (solutions(without, 1).isEmpty()) {
                 left = without;
             }
         }

@@ -10,6 +10,7 @@ public final class Promise11ResolveTest {
         chainsOfNeeds();
         locked();
         none();
+        theLargest();
         DUE.end();
     }
 
@@ -87,6 +88,33 @@ public final class Promise11ResolveTest {
             DUE.is("its resolve", 1, x.resolve(true));
             DUE.is("reason(0)", -1, x.reason(0));
         }
+    }
+
+    /** Ten packages of six releases, each wanted; each of the first nine needs the one behind it. */
+    private static void theLargest() {
+        StringBuilder text = new StringBuilder();
+        int[] chosen = new int[10];
+        for (int p = 0; p < 10; p++) {
+            text.append("package ").append((char) ('a' + p)).append('{');
+            for (int r = 0; r < 6; r++) {
+                text.append(r).append(".0.0");
+                text.append(p == 9 ? "" : " needs " + (char) ('b' + p) + "<" + (r + 1)).append(';');
+            }
+            text.append('}');
+            chosen[p] = 6 * p + 5;
+        }
+        is(text.toString());
+        String wants = "";
+        for (int p = 0; p < 10; p++) {
+            wants += "want " + (char) ('a' + p) + "*;";
+        }
+        is(text + wants, chosen);
+        RangeResolver x = Due.withRegistry(text + wants.replace("j*", "j>4").replace("a*", "a<5"));
+        DUE.is("resolve", 0, x.resolve(false));
+        // a is below 5, so all that it needs are; the last want and the links of the chain between
+        DUE.is("the last of the reason", x.count(2) - 1, x.reason(x.count(5) - 1));
+        DUE.is("the want of a", x.count(2) - 10, x.reason(x.count(5) - 2));
+        DUE.is("five links of each of nine packages, two wants", 47, x.count(5));
     }
 
     private static void is(String text, int... chosen) {

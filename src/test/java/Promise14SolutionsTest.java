@@ -31,6 +31,8 @@ public final class Promise14SolutionsTest {
         for (int most : new int[] {1, 2, 6, 7, 8, 48, 49, 50, 999, 1000}) {
             DUE.is("solutions(" + most + ")", most, x.solutions(most));
         }
+        DUE.is("resolve of nothing wanted", 1, x.resolve(false));
+        DUE.is("chosen releases", 0, x.count(4));
         x = Due.withRegistry(text + "want p9*;want p0 1;want p1 1;want p2 1;want p3 1;want p4 1;want p5 1;want p6 1;");
         DUE.is("7 * 7 * 6", 294, x.solutions(1000));
         DUE.is("7 * 7 * 6", 293, x.solutions(293));
