@@ -56,7 +56,7 @@ public final class RangeResolver {
         rangeReader = new RangeReader();
         registry = new Registry();
         draft = new Registry();
-        solver = new Solver();
+        solver = new Solver(registry);
         finding = new Finding();
         page = new Page();
     }
@@ -1379,8 +1379,8 @@ public final class RangeResolver {
         private final boolean[] active;
         private final int[] values;
 
-        Solver() {
-            registry = null;
+        Solver(Registry first) {
+            registry = first;
             packs = 0;
             says = new int[PACKS * VALUES * PACKS];
             allowed = new int[PACKS * VALUES * PACKS];
@@ -1410,7 +1410,7 @@ public final class RangeResolver {
         }
 
         boolean isPossible() {
-            return blameFrom(0, 0) == POSSIBLE;
+            return blameFrom(this, 0, 0) == POSSIBLE;
         }
 
         /** The best solution, of which it is known that there is one. */
@@ -1445,7 +1445,7 @@ public final class RangeResolver {
 
         /** How many solutions there are, at most so many. */
         int tally(int most) {
-            return isPossible() ? tallyFrom(0, 0, most) : 0;
+            return isPossible() ? tallyFrom(this, 0, 0, most) : 0;
         }
 
         private int lockedValue(Finding finding, int p) {
@@ -1480,7 +1480,7 @@ public final class RangeResolver {
         /** Whether there is a solution with this value and with those of the packages ahead. */
         private boolean leadsOn(int p, int value) {
             return isOpen(p, p, value) && lay(p, p, value) == 0
-                    && blameFrom(p + 1, (1 << p + 1) - 1) == POSSIBLE;
+                    && blameFrom(this, p + 1, (1 << p + 1) - 1) == POSSIBLE;
         }
 
         /**
@@ -1490,17 +1490,17 @@ public final class RangeResolver {
          * no part in the blame of one of its values, the others needn't be tried: else packages that
          * have nothing to do with it would be gone through for each other.
          */
-        private int blameFrom(int depth, int laid) {
-            int p = depth < packs ? smallestPack(depth, laid, true) : NONE;
+        private static int blameFrom(Solver solver, int depth, int laid) {
+            int p = depth < solver.packs ? solver.smallestPack(depth, laid, true) : NONE;
             if (p == NONE) {
                 return POSSIBLE;
             }
-            int blamed = closers[depth * PACKS + p];
+            int blamed = solver.closers[depth * PACKS + p];
             for (int value = 0; value < ABSENT; value++) {
-                if (isOpen(depth, p, value)) {
-                    int blame = lay(depth, p, value);
+                if (solver.isOpen(depth, p, value)) {
+                    int blame = solver.lay(depth, p, value);
                     if (blame == 0) {
-                        blame = blameFrom(depth + 1, laid | 1 << p);
+                        blame = blameFrom(solver, depth + 1, laid | 1 << p);
                     }
                     if (blame == POSSIBLE || (blame >> p & 1) == 0) {
                         return blame;
@@ -1512,24 +1512,22 @@ public final class RangeResolver {
         }
 
         /** Packages that must be there come first: the sooner it's seen that there is no solution. */
-        private int tallyFrom(int depth, int laid, int most) {
-            if (depth >= packs) {
-                return 1;
-            }
-            int p = smallestPack(depth, laid, true);
-            if (p == NONE) {
-                p = smallestPack(depth, laid, false);
+        private static int tallyFrom(Solver solver, int depth, int laid, int most) {
+            int p = NONE;
+            if (depth < solver.packs) {
+                p = solver.smallestPack(depth, laid, true);
+                p = p == NONE ? solver.smallestPack(depth, laid, false) : p;
             }
             if (p == NONE) {
                 return 1;
             }
-            if (depth == packs - 1) {
-                return Math.min(most, Integer.bitCount(open[depth * PACKS + p]));
+            if (depth == solver.packs - 1) {
+                return Math.min(most, Integer.bitCount(solver.open[depth * PACKS + p]));
             }
             int sum = 0;
             for (int value = 0; value < VALUES && sum < most; value++) {
-                if (isOpen(depth, p, value) && lay(depth, p, value) == 0) {
-                    sum += tallyFrom(depth + 1, laid | 1 << p, most - sum);
+                if (solver.isOpen(depth, p, value) && solver.lay(depth, p, value) == 0) {
+                    sum += tallyFrom(solver, depth + 1, laid | 1 << p, most - sum);
                 }
             }
             return sum;

@@ -49,6 +49,8 @@ public final class Promise03ReadTest {
         DUE.is("read of its first bytes", 0, x.read(n));
         DUE.is("the tape is empty", 0, x.count(3));
         DUE.is("releases", 1, x.count(1));
+        DUE.is("behind n nothing counts", 1 + 8 * 17, x.read(Due.feed(x, "package a{}want a||") - 1));
+        DUE.is("behind n nothing counts", 0, x.read(Due.feed(x, "package a{};") - 1));
     }
 
     private static void keepsTheFormerOne() {

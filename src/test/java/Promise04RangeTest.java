@@ -164,6 +164,10 @@ public final class Promise04RangeTest {
         DUE.is("slot 0", 0, Due.range(x, 0, "2"));
         DUE.is("behind n nothing counts", 0, x.range(1, Due.feed(x, "1.0.0 ;") - 1));
         DUE.is("slot 1", "=1.0.0", Due.written(x, 0, 1));
+        DUE.is("behind n nothing counts", 1 + 8 * 2, x.range(1, Due.feed(x, "1 || 2") - 3));
+        DUE.is("behind n nothing counts", 1 + 8 * 2, x.range(1, Due.feed(x, "1 >=1") - 2));
+        DUE.is("behind n nothing counts", 0, x.range(1, Due.feed(x, "1.0.0-a1") - 1));
+        DUE.is("slot 1", "=1.0.0-a", Due.written(x, 0, 1));
     }
 
     private static void is(String text, String written) {
