@@ -115,10 +115,13 @@ public final class RangeResolver {
             return NONE - 1;
         }
         fed = 0;
-        int blank = firstBlank(n);
-        if (blank == NONE
-                || firstVersion.take(tape, 0, blank) != Version.WHOLE
-                || secondVersion.take(tape, blank + 1, n) != Version.WHOLE) {
+        int first = behindBlanks(0, n);
+        int firstEnd = behindSigns(first, n);
+        int second = behindBlanks(firstEnd, n);
+        int secondEnd = behindSigns(second, n);
+        if (behindBlanks(secondEnd, n) != n
+                || firstVersion.take(tape, first, firstEnd) != Version.WHOLE
+                || secondVersion.take(tape, second, secondEnd) != Version.WHOLE) {
             return NOT_TWO_VERSIONS;
         }
         return Version.compare(firstVersion.row, 0, secondVersion.row, 0);
@@ -245,13 +248,20 @@ public final class RangeResolver {
         }
     }
 
-    private int firstBlank(int n) {
-        for (int i = 0; i < n && i < TAPE_BYTES; i++) {
-            if (Tokens.isBlank(tape[i])) {
-                return i;
-            }
+    private int behindBlanks(int from, int n) {
+        int at = from;
+        while (at < n && at < TAPE_BYTES && Tokens.isBlank(tape[at])) {
+            at++;
         }
-        return NONE;
+        return at;
+    }
+
+    private int behindSigns(int from, int n) {
+        int at = from;
+        while (at < n && at < TAPE_BYTES && !Tokens.isBlank(tape[at])) {
+            at++;
+        }
+        return at;
     }
 
     /** The ranges of a registry aren't kept: only which releases are in them, and where they stand. */

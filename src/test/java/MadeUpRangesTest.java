@@ -73,16 +73,24 @@ public final class MadeUpRangesTest {
     private static void checkOrder(Due due, Random random) {
         String first = version(random);
         String second = random.nextInt(4) == 0 ? first : version(random);
-        String text = first + " " + second;
+        String text = blanks(random, 0) + first + blanks(random, 1) + second + blanks(random, 0);
         if (random.nextInt(5) == 0) {
             text = spoilt(random, text);
         }
-        int split = text.indexOf(' ') >= 0 && (text.indexOf('\n') < 0 || text.indexOf(' ') < text.indexOf('\n'))
-                ? text.indexOf(' ') : text.indexOf('\n');
-        Model.Version x = split < 0 ? null : Model.version(text.substring(0, split));
-        Model.Version y = split < 0 ? null : Model.version(text.substring(split + 1));
+        String[] both = text.replaceAll("^[ \\n]+", "").split("[ \\n]+");
+        Model.Version x = both.length != 2 ? null : Model.version(both[0]);
+        Model.Version y = both.length != 2 ? null : Model.version(both[1]);
         int answer = x == null || y == null ? 2 : Integer.signum(Model.compare(x, y));
         due.is("order of \"" + text + "\"", answer, Due.order(new RangeResolver(), text));
+    }
+
+    private static String blanks(Random random, int least) {
+        StringBuilder text = new StringBuilder();
+        int many = least + (random.nextInt(3) == 0 ? random.nextInt(3) : 0);
+        for (int i = 0; i < many; i++) {
+            text.append(random.nextBoolean() ? ' ' : '\n');
+        }
+        return text.toString();
     }
 
     static String version(Random random) {

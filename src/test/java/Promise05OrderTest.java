@@ -14,8 +14,20 @@ public final class Promise05OrderTest {
         }
         is("1.0.0-1 1.0.0--", -1);
         is("1.0.0\n1.0.0+x", 0);
-        for (String wrong : new String[] {"", " ", "1.0.0", "1.0.0 ", " 1.0.0", "1.0.0  1.0.0", " 1.0.0 1.0.0", "1.0.0 1.0.0 ",
-            "1.0.0\t1.0.0", "1.0.0 1.0.0 1.0.0", "1.0 1.0.0", "1.0.0 1.x", "=1.0.0 1.0.0", "1.0.0 ^1.0.0", "* *", "1.0.0,1.0.0",
+        for (String blanks : new String[] {" ", "\n", "  ", "\n ", " \n\n  "}) {
+            is(blanks + "1.0.0 2.0.0", -1);
+            is("1.0.0 2.0.0" + blanks, -1);
+            is("2.0.0" + blanks + "1.0.0", 1);
+            is(blanks + "1.0.0-a+b" + blanks + "1.0.0-a" + blanks, 0);
+            is(blanks, 2);
+            is(blanks + "1.0.0" + blanks, 2);
+            is(blanks + "1.0.0" + blanks + "2.0.0" + blanks + "3.0.0", 2);
+            is(blanks + "1.0.0" + blanks + "2.0.0" + blanks + ";", 2);
+            is(blanks + "1.0.0" + blanks + "2.0" + blanks, 2);
+            is(blanks + "1.0.0" + blanks + ".1" + blanks + "2.0.0", 2);
+        }
+        for (String wrong : new String[] {"", " ", "1.0.0", "1.0.0 ", " 1.0.0", "1.0.01.0.0", "\t1.0.0 1.0.0", "1.0.0 1.0.0\r",
+            "1.0.0 1.0.0\u0000", "1.0.0\t1.0.0", "1.0.0 1.0.0 1.0.0", "1.0 1.0.0", "1.0.0 1.x", "=1.0.0 1.0.0", "1.0.0 ^1.0.0", "* *", "1.0.0,1.0.0",
             "1.0.0 1.0.0;", "01.0.0 1.0.0", "1.0.0 1.0.0-01", "1.0.0-a.b.c.d.e 1.0.0", "1.0.0 1.0.0+123456789", "1.0.0-\u00e9 1.0.0"}) {
             is(wrong, 2);
         }
@@ -36,6 +48,12 @@ public final class Promise05OrderTest {
         Due.feed(x, "1.0.0 2.0.0");
         DUE.is("too few bytes", 2, x.order(10));
         DUE.is("the tape is empty", 0, x.count(3));
+        Due.feed(x, "1.0.0 2.0.0         3.0.0");
+        DUE.is("blanks up to n, what is behind n doesn't count", -1, x.order(20));
+        Due.feed(x, " ".repeat(1988) + "2.0.0\n1.0.0\n");
+        DUE.is("a full tape", 1, x.order(2000));
+        Due.feed(x, " ".repeat(2000));
+        DUE.is("a full tape of blanks", 2, x.order(2000));
     }
 
     private static void is(String text, int answer) {
