@@ -1606,6 +1606,9 @@ public final class RangeResolver {
                 return;
             }
             int value = link.holder - home.firstRelease;
+            if (holder.home < 0 || holder.home >= PACKS || value < 0 || value >= ABSENT) {
+                return;
+            }
             int goes = ANY;
             for (int k = 0; k < holder.links; k++) {
                 Constraint other = registry.constraintAt(holder.firstLink + k);

@@ -26,6 +26,10 @@ public final class FaceTest {
                 due.is(call, "public int", Modifier.toString(method.getModifiers()) + " " + method.getReturnType());
             }
         }
+        for (Method method : face.getDeclaredMethods()) {
+            boolean hidden = Modifier.isPrivate(method.getModifiers());
+            due.is(method + " bears no name of the face", 0, hidden && names.contains(method.getName()) ? 1 : 0);
+        }
         due.is("methods", FACE.toString(), methods.toString());
         due.is("constructors", 1, face.getDeclaredConstructors().length);
         for (Constructor<?> constructor : face.getDeclaredConstructors()) {
@@ -34,7 +38,7 @@ public final class FaceTest {
         for (Field field : face.getDeclaredFields()) {
             boolean hidden = Modifier.isPrivate(field.getModifiers());
             due.is(field.toString(), hidden ? field.toString() : "public static final int RangeResolver.NONE", field.toString());
-            due.is(field + " is static, so final", 1, Modifier.isStatic(field.getModifiers()) && !Modifier.isFinal(field.getModifiers()) ? 0 : 1);
+            checkStatic(due, field);
         }
         checkInside(due, face, names);
         due.end();
@@ -48,12 +52,22 @@ public final class FaceTest {
             int fields = 0;
             for (Field field : inside.getDeclaredFields()) {
                 fields += Modifier.isStatic(field.getModifiers()) ? 0 : 1;
+                checkStatic(due, field);
             }
             due.is(inside + " has at most twenty fields", 1, fields <= 20 ? 1 : 0);
             for (Method method : inside.getDeclaredMethods()) {
                 due.is(method + " bears no name of the face", 0, names.contains(method.getName()) ? 1 : 0);
                 due.is(method + " has at most seven parameters", 1, method.getParameterCount() <= 7 ? 1 : 0);
             }
+        }
+    }
+
+    /** Static fields are constants. */
+    private static void checkStatic(Due due, Field field) {
+        if (Modifier.isStatic(field.getModifiers())) {
+            due.is(field + " is final", 1, Modifier.isFinal(field.getModifiers()) ? 1 : 0);
+            Set<Class<?>> types = Set.of(int.class, long.class, boolean.class, char.class, String.class);
+            due.is(field + " is a constant", 1, types.contains(field.getType()) ? 1 : 0);
         }
     }
 }

@@ -49,23 +49,14 @@ public final class MadeUpRangesTest {
             int a = random.nextInt(4);
             int b = random.nextInt(4);
             int c = random.nextInt(4);
-            List<Model.Stretch> bounds = new ArrayList<>(slots.get(a));
-            bounds.addAll(slots.get(b));
-            Model.Set inA = Model.setOf(slots.get(a));
-            Model.Set inB = Model.setOf(slots.get(b));
-            Model.Set both = v -> how == 0 ? inA.has(v) && inB.has(v) : how == 1 ? inA.has(v) || inB.has(v) : inA.has(v) && !inB.has(v);
-            List<Model.Stretch> result = Model.stretches(both, bounds);
+            List<Model.Stretch> result = Mirror.combined(how, slots.get(a), slots.get(b));
             String call = "combine(" + how + ", " + Model.written(slots.get(a)) + ", " + Model.written(slots.get(b)) + ")";
             due.is(call, result.size() > 16 ? -1 : result.size(), x.combine(how, a, b, c));
             if (result.size() <= 16) {
                 slots.set(c, result);
             }
             due.is(call, Model.written(slots.get(c)), Due.written(x, 0, c));
-            List<Model.Stretch> rest = new ArrayList<>(slots.get(a));
-            rest.addAll(slots.get(c));
-            Model.Set inA2 = Model.setOf(slots.get(a));
-            Model.Set inC = Model.setOf(slots.get(c));
-            boolean inside = Model.stretches(v -> inA2.has(v) && !inC.has(v), rest).isEmpty();
+            boolean inside = Mirror.combined(2, slots.get(a), slots.get(c)).isEmpty();
             due.is("inside behind " + call, inside ? 1 : 0, x.inside(a, c));
         }
     }
@@ -77,11 +68,7 @@ public final class MadeUpRangesTest {
         if (random.nextInt(5) == 0) {
             text = spoilt(random, text);
         }
-        String[] both = text.replaceAll("^[ \\n]+", "").split("[ \\n]+");
-        Model.Version x = both.length != 2 ? null : Model.version(both[0]);
-        Model.Version y = both.length != 2 ? null : Model.version(both[1]);
-        int answer = x == null || y == null ? 2 : Integer.signum(Model.compare(x, y));
-        due.is("order of \"" + text + "\"", answer, Due.order(new RangeResolver(), text));
+        due.is("order of \"" + text + "\"", Mirror.orderOf(text), Due.order(new RangeResolver(), text));
     }
 
     private static String blanks(Random random, int least) {

@@ -96,7 +96,7 @@ public final class MadeUpRegistriesTest {
         due.is("reason(0) of " + text, -1, x.reason(0));
     }
 
-    private static String registry(Random random) {
+    static String registry(Random random) {
         StringBuilder text = new StringBuilder();
         int packs = 1 + random.nextInt(NAMES.length);
         int density = random.nextInt(4);

@@ -441,6 +441,14 @@ final class Model {
         }
     }
 
+    /** -1 for none, then the releases of package p from the greatest version down. */
+    List<Integer> valuesOf(int p) {
+        if (targets == null) {
+            prepare();
+        }
+        return values.get(p);
+    }
+
     private void addSolutions(int p, int[] choice, List<Integer> kept, int most, List<int[]> result) {
         if (p == choice.length) {
             for (int c : kept) {
