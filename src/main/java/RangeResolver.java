@@ -578,7 +578,8 @@ public final class RangeResolver {
             bounds = 0;
             int i = 0;
             int j = 0;
-            for (int passed = 0; passed < a.bounds + b.bounds; passed = i + j) {
+            int all = a.bounds + b.bounds;
+            for (int step = 0; step < all && i + j < all; step++) {
                 int side = sideOfLower(a, i, b, j);
                 long[] from = side <= 0 ? a.rows : b.rows;
                 int at = (side <= 0 ? i : j) * Version.WIDTH;
